@@ -532,12 +532,13 @@ public final class Calendaract {
 
     public boolean isSound() {
         for (int place = 0; place < PLACES; place++) {
-            if (!Reckoning.isSoundAlone(dates[place])) {
+            int date = dates[place];
+            if (!Reckoning.isToldAnew(date) || !Reckoning.isSoundByCycles(date)
+                    || !Reckoning.isSoundByMonths(date)) {
                 return false;
             }
             for (int other = 0; other < PLACES; other++) {
-                if (dates[place] <= dates[other]
-                        && !Reckoning.isSoundPair(dates[place], dates[other])) {
+                if (date <= dates[other] && !Reckoning.isSoundPair(date, dates[other])) {
                     return false;
                 }
             }
@@ -711,19 +712,15 @@ public final class Calendaract {
         }
 
         static int firstOf(int month) {
-            int year = yearOfMonth(month);
+            int year = Math.floorDiv(month, YEAR_MONTHS);
             // floorMod by 12 can only answer an index of the row of twelve.
             int index = Math.floorMod(month, YEAR_MONTHS);
             int leapDay = index > 1 && isLeap(year) ? 1 : 0;
-            return firstOfYear(year) + DAYS_AHEAD[index] + leapDay;
-        }
-
-        private static int firstOfYear(int year) {
+            // The YEAR 0 is a LEAP YEAR, which the quotients of the one ahead of it leave out.
             int before = year - 1;
-            int leapYears = Math.floorDiv(before, 4) - Math.floorDiv(before, 100)
+            int leapYears = 1 + Math.floorDiv(before, 4) - Math.floorDiv(before, 100)
                     + Math.floorDiv(before, 400);
-            // The count of LEAP YEARS above starts behind the YEAR 0, which is one itself.
-            return YEAR_DAYS * year + leapYears + 1 - DAYS_TO_1970;
+            return YEAR_DAYS * year + leapYears - DAYS_TO_1970 + DAYS_AHEAD[index] + leapDay;
         }
 
         static int lengthOf(int month) {
@@ -756,7 +753,7 @@ public final class Calendaract {
 
         /** The date in a month that has a day, or the last one there. */
         static int dateIn(int month, int day) {
-            return firstOf(month) + Math.min(day, lengthOf(month)) - 1;
+            return Math.min(firstOf(month) + day, firstOf(month + 1)) - 1;
         }
 
         static int shifted(int date, int months) {
@@ -802,23 +799,19 @@ public final class Calendaract {
             return years;
         }
 
-        static boolean isSoundAlone(int date) {
-            return isToldAnew(date) && isSoundByCycles(date) && isSoundByMonths(date);
-        }
-
-        private static boolean isToldAnew(int date) {
+        static boolean isToldAnew(int date) {
             int month = monthOf(date);
             int day = dayOf(date);
             int anew = dateIn(month, day);
             return anew == date && monthOf(anew) == month && dayOf(anew) == day;
         }
 
-        private static boolean isSoundByCycles(int date) {
+        static boolean isSoundByCycles(int date) {
             return shifted(date, CYCLE_MONTHS) - date == CYCLE_DAYS
                     && date - shifted(date, -CYCLE_MONTHS) == CYCLE_DAYS;
         }
 
-        private static boolean isSoundByMonths(int date) {
+        static boolean isSoundByMonths(int date) {
             int month = monthOf(date);
             int day = dayOf(date);
             for (int months = -SOUND_MONTHS; months <= SOUND_MONTHS; months++) {

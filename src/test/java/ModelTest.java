@@ -62,7 +62,7 @@ public final class ModelTest {
             case 2:
                 return below(2) == 0 ? least - 1 : most + 1;
             case 3:
-                return below(8) == 0 ? (below(2) == 0 ? Integer.MIN_VALUE : Integer.MAX_VALUE) : least;
+                return below(2) == 0 ? least - 1 - below(1000) : most + 1 + below(1000);
             default:
                 return least + below(most - least + 1);
         }

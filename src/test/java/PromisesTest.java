@@ -1224,12 +1224,15 @@ public final class PromisesTest {
 
     private static void beyond(Calendaract x, int least, int most, Call call) {
         for (int argument : new int[] {least - 1, most + 1, LOW, HIGH}) {
-            thrown(ARGUMENT, x, () -> call.on(argument));
+            // One that is not refused is enough: a huge count, if not refused, would take long.
+            if (!thrown(ARGUMENT, x, () -> call.on(argument))) {
+                return;
+            }
         }
     }
 
     /** What throws changes nothing, which the digest tells. */
-    private static void thrown(Class<?> want, Calendaract x, Supplier<Object> call) {
+    private static boolean thrown(Class<?> want, Calendaract x, Supplier<Object> call) {
         long before = x.digest();
         Object got;
         try {
@@ -1241,6 +1244,7 @@ public final class PromisesTest {
             fail("answered " + got + ", due is " + want);
         }
         due(before, x.digest());
+        return got == want;
     }
 
     private static void fail(String text) {
