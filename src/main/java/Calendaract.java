@@ -695,9 +695,8 @@ public final class Calendaract {
         private static final int YEAR_DAYS = 365;
         /** The DAYS from the first day of the YEAR 0 on to that of the YEAR 1970. */
         private static final int DAYS_TO_1970 = 719528;
-        /** How many days of a YEAR that is no LEAP YEAR are ahead of each of its MONTHS. */
-        private static final int[] DAYS_AHEAD =
-                {0, 31, 59, 90, 120, 151, 181, 212, 243, 273, 304, 334};
+        /** How many of them are ahead of the MONTH 3 of the YEAR 0, which is a LEAP YEAR. */
+        private static final int DAYS_TO_MARCH = 60;
 
         static boolean isLeap(int year) {
             return year % 4 == 0 && (year % 100 != 0 || year % 400 == 0);
@@ -712,15 +711,16 @@ public final class Calendaract {
         }
 
         static int firstOf(int month) {
-            int year = Math.floorDiv(month, YEAR_MONTHS);
-            // floorMod by 12 can only answer an index of the row of twelve.
-            int index = Math.floorMod(month, YEAR_MONTHS);
-            int leapDay = index > 1 && isLeap(year) ? 1 : 0;
-            // The YEAR 0 is a LEAP YEAR, which the quotients of the one ahead of it leave out.
-            int before = year - 1;
-            int leapYears = 1 + Math.floorDiv(before, 4) - Math.floorDiv(before, 100)
-                    + Math.floorDiv(before, 400);
-            return YEAR_DAYS * year + leapYears - DAYS_TO_1970 + DAYS_AHEAD[index] + leapDay;
+            // Reckoned by years that begin with the MONTH 3: a leap day is the last one of such a
+            // year, so that all months ahead of it lie alike in each.
+            int fromMarch = month - 2;
+            int year = Math.floorDiv(fromMarch, YEAR_MONTHS);
+            int months = Math.floorMod(fromMarch, YEAR_MONTHS);
+            int leapDays = Math.floorDiv(year, 4) - Math.floorDiv(year, 100)
+                    + Math.floorDiv(year, 400);
+            // From there on 31, 30, 31, 30 and 31 days come again and again: 153 in five months.
+            int daysAhead = (153 * months + 2) / 5;
+            return YEAR_DAYS * year + leapDays + daysAhead + DAYS_TO_MARCH - DAYS_TO_1970;
         }
 
         static int lengthOf(int month) {
